@@ -148,7 +148,9 @@ public final class LineBreaker {
             throw new IllegalArgumentException("only lines 0 to 19 have widths of their own");
         }
         requireSize(width);
-        Arrays.fill(settings.widths, i, LINE_WIDTHS, width);
+        for (int line = i; line < LINE_WIDTHS; line++) {
+            settings.widths[line] = width;
+        }
     }
 
     public void around(int which, int width, int stretch, int order, int shrink)

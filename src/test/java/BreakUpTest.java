@@ -22,6 +22,7 @@ public final class BreakUpTest {
         equalTotals();
         passes();
         looseness();
+        loosenessWithGaps();
         eightThousandNodes();
         wrongLines();
         Check.done();
@@ -50,9 +51,9 @@ public final class BreakUpTest {
                 x.hyphen(sign * -30, -7, 1);
                 x.kern(3, false);
                 x.glue(10, 0, 0, 0);
-                x.around(0, -1000, 0, 0, 0);
-                x.around(1, 2000, 0, 0, 0);
-                x.around(2, -4000, 0, 0, 0);
+                x.around(0, sign * 1000, 0, 0, 0);
+                x.around(1, sign * 2000, 0, 0, 0);
+                x.around(2, sign * 4000, 0, 0, 0);
                 x.box(SIZE - 7200 + more);
                 sameSum("widths", x, more);
             }
@@ -441,6 +442,42 @@ public final class BreakUpTest {
         Check.same("no more there are", x.breakUp(), 3);
     }
 
+    /** It fits in one line and in four, but not in two or three: the kern is only there in one line. */
+    private static LineBreaker oneOrFour(int penalty) {
+        LineBreaker x = new LineBreaker();
+        x.wide(0, 30);
+        x.wide(1, 10);
+        x.around(2, 0, 0, 0, 0);
+        x.box(30);
+        x.penalty(penalty);
+        x.kern(-30, true);
+        for (int i = 0; i < 3; i++) {
+            x.box(10);
+            x.penalty(i < 2 ? penalty : 10000);
+        }
+        return x;
+    }
+
+    private static void loosenessWithGaps() {
+        LineBreaker x = oneOrFour(0);
+        Check.same("the best has one", x.breakUp(), 1);
+        x.set(9, 3);
+        Check.same("four", x.breakUp(), 4);
+        Check.same("just as wished", x.pass(), 1);
+        x.set(9, 2);
+        Check.same("four would be nearer, but are beyond", x.breakUp(), 1);
+        Check.same("in the last pass", x.pass(), 2);
+        x.set(9, 100);
+        Check.same("not beyond", x.breakUp(), 4);
+        LineBreaker y = oneOrFour(-100);
+        Check.same("the best has four", y.breakUp(), 4);
+        y.set(9, -2);
+        Check.same("one would be nearer, but is beyond", y.breakUp(), 4);
+        y.set(9, -3);
+        Check.same("one", y.breakUp(), 1);
+        Check.same("just as wished", y.pass(), 1);
+    }
+
     /** Behind 125 forced places 125 ordinary ones, n among them: 125 + 125 * 126 / 2 = 8000 nodes. */
     private static void eightThousandNodes() {
         LineBreaker x = new LineBreaker();
@@ -461,13 +498,8 @@ public final class BreakUpTest {
         x.keep(248);
         x.breakUp();
         Check.same("fewer", x.nodes(), 8000 - 125);
-        x.keep(0);
-        for (int i = 0; i < 125; i++) {
-            x.penalty(0);
-        }
-        Check.same("8001 are too many", x.breakUp(), LineBreaker.FULL);
-        Check.same("not broken", x.pass(), 0);
         fullAfterBroken();
+        brokenAfterFull();
     }
 
     private static void fullAfterBroken() {
@@ -486,6 +518,25 @@ public final class BreakUpTest {
         Check.fails("whatever it was before", INDEX, () -> x.total(0));
         x.keep(3);
         Check.same("it can be broken again", x.breakUp(), 1);
+    }
+
+    private static void brokenAfterFull() {
+        LineBreaker x = new LineBreaker();
+        x.set(2, 0);
+        for (int i = 0; i < 125; i++) {
+            x.penalty(0);
+        }
+        Check.same("8001 are too many", x.breakUp(), LineBreaker.FULL);
+        Check.same("not broken", x.pass(), 0);
+        x.set(2, 10);
+        x.keep(0);
+        for (int i = 0; i < 130; i++) {
+            x.penalty(-10000);
+        }
+        Check.same("lines", x.breakUp(), 131);
+        for (int i = 0; i < 131; i++) {
+            Check.same("nothing is left of the nodes before, line " + i, x.total(i), 100 * (i + 1));
+        }
     }
 
     private static void wrongLines() {
