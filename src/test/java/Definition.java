@@ -167,6 +167,11 @@ final class Definition {
         return nodesMade;
     }
 
+    /** Not of the face: how many lines there are, 0 when it is not broken. */
+    int lines() {
+        return broken.size();
+    }
+
     int line(int i, int what) {
         if (i < 0 || i >= broken.size() || what < 0 || what > 4) {
             throw new IndexOutOfBoundsException();

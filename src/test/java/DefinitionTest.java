@@ -11,6 +11,7 @@ public final class DefinitionTest {
     private final StringBuilder calls = new StringBuilder();
     private final int unit;
     private int looseness = 0;
+    private int made = 0;
 
     /** How often the runs came to: 1 to 3 that pass, 4 not broken, 5 looseness that was asked for. */
     private static final int[] OUTCOMES = new int[6];
@@ -59,9 +60,9 @@ public final class DefinitionTest {
         }
     }
 
-    /** A text of some sixty words, with hyphens in the longer ones. */
+    /** A text of some fifty words, with hyphens in the longer ones. */
     private void runLong() {
-        for (int word = 0; word < 60; word++) {
+        for (int word = 0; word < 50; word++) {
             addBox((2 + upTo(6)) * unit);
             if (chance(3)) {
                 addHyphen(unit, NOTHING, 0);
@@ -245,20 +246,32 @@ public final class DefinitionTest {
         compare("items()", x::items, due::items);
         compare("pass()", x::pass, due::pass);
         compare("nodes()", x::nodes, due::nodes);
-        for (int i = -1; ; i++) {
-            int number = i;
-            for (int what = -1; what < 6; what++) {
-                int fact = what;
-                compare("line(" + i + ", " + what + ")", () -> x.line(number, fact), () -> due.line(number, fact));
-            }
-            compare("total(" + i + ")", () -> x.total(number), () -> due.total(number));
-            if (i >= 0 && Check.outcome(() -> due.total(number)).startsWith("throws")) {
-                return;
-            }
+        int lines = due.lines();
+        for (int i = 0; i < lines; i++) {
+            compareLine(i, 0, 5);
+        }
+        compareLine(lines, 0, 1);
+        if (chance(4)) {
+            compareLine(-1, 0, 1);
+            compareLine(0, -1, 0);
+            compareLine(lines - 1, 5, 6);
         }
     }
 
+    private void compareLine(int i, int fromWhat, int toWhat) {
+        for (int what = fromWhat; what < toWhat; what++) {
+            int fact = what;
+            compare("line(" + i + ", " + what + ")", () -> x.line(i, fact), () -> due.line(i, fact));
+        }
+        compare("total(" + i + ")", () -> x.total(i), () -> due.total(i));
+    }
+
+    /** What an object answers after its 512th call is free. */
     private void compare(String call, Check.Call got, Check.Call want) {
+        if (made == 512) {
+            return;
+        }
+        made++;
         String gotten = Check.outcome(got);
         String wanted = Check.outcome(want);
         calls.append(call).append(" = ").append(wanted).append("; ");

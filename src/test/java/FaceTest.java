@@ -103,10 +103,11 @@ public final class FaceTest {
         }
     }
 
+    /** The class needs no catch, so that it can't catch what the machine throws. */
     private static void text() throws IOException {
         List<String> lines = Files.readAllLines(Path.of("src/main/java/LineBreaker.java"));
-        List<String> refused = List.of("try", "catch", "finally", "->", "::", "synchronized", "assert ",
-                "package ", "Exact(", "System.", "Random", "Thread");
+        List<String> refused = List.of("try {", "catch (", "finally {", "->", "::", "synchronized", "assert ",
+                "package ", "Exact(", "System.exit", "System.out", "System.nanoTime", "Random", "Thread");
         int begun = 0;
         for (int i = 0; i < lines.size(); i++) {
             String line = lines.get(i);
