@@ -11,6 +11,7 @@ public final class Promises12To16Test {
         p12FullIsNotBroken();
         p12ReplacedItems();
         p12Widths();
+        p12AllItems();
         p12Stretch();
         p12Shrink();
         p12EachSumAlone();
@@ -239,6 +240,25 @@ public final class Promises12To16Test {
         Check.same("P12 nothing and penalties have no width", x.breakUp() > 0, true);
         x.wide(0, SIZE);
         Check.same("P12 nor do the lines' widths count", x.breakUp() > 0, true);
+    }
+
+    /** Promise 12: "all": the first item, the last one, and those between. */
+    private static void p12AllItems() {
+        for (int item = 0; item < 5; item++) {
+            for (int over = 0; over < 2; over++) {
+                for (int sum = 0; sum < 3; sum++) {
+                    LineBreaker x = new LineBreaker();
+                    x.around(2, 0, 0, 0, 0);
+                    for (int i = 0; i < 5; i++) {
+                        int amount = i == item ? SIZE - 1 + over : 0;
+                        x.glue(sum == 0 ? amount : 0, sum == 1 ? amount : 0, 0, sum == 2 ? amount : 0);
+                    }
+                    x.around(0, sum == 0 ? 1 : 0, sum == 1 ? 1 : 0, 0, sum == 2 ? 1 : 0);
+                    Check.same("P12 sum " + sum + ", item " + item, Check.outcome(x::breakUp),
+                            over == 0 ? "1" : "throws.UnsupportedOperationException");
+                }
+            }
+        }
     }
 
     /** Promise 12: "(or all stretch, with more stretch, ..." of all orders. */

@@ -9,6 +9,7 @@ public final class Promises1To8Test {
     public static void main(String[] args) {
         p1First();
         p1Tolerance();
+        p1PenaltiesAndDemerits();
         p1NothingAround();
         p1Fill();
         p1NotBroken();
@@ -34,6 +35,7 @@ public final class Promises1To8Test {
         p7Bounds();
         p7NotBroken();
         p7OfReplacedItems();
+        p7NothingOfTheOthers();
         p8Items();
         Check.done();
     }
@@ -58,6 +60,23 @@ public final class Promises1To8Test {
         Check.same("P1 " + what + ", badness", x.line(0, 3), badness);
         Check.same("P1 " + what + ", pass", x.pass(), pass);
         Check.same("P1 " + what + ", total", x.total(0), total);
+    }
+
+    /** Promise 1: "line penalty 10, hyphen's and empty one's 50, double 10000, final 5000". */
+    private static void p1PenaltiesAndDemerits() {
+        for (int before : new int[] {0, NOTHING}) {
+            LineBreaker x = new LineBreaker();
+            x.wide(0, 10);
+            x.box(10);
+            x.hyphen(before, 0, 0);
+            x.box(10);
+            x.hyphen(before, 0, 0);
+            x.box(10);
+            Check.same("P1 lines", x.breakUp(), 3);
+            Check.same("P1 the line's and the hyphen's", x.total(0), 100 + 2500);
+            Check.same("P1 double", x.total(1) - x.total(0), 100 + 2500 + 10000);
+            Check.same("P1 final", x.total(2) - x.total(1), 100 + 5000);
+        }
     }
 
     /** Promise 1: "left and right nothing at all": all sizes are left to the items. */
@@ -460,6 +479,50 @@ public final class Promises1To8Test {
             String due = waits ? "throws.IllegalStateException" : String.valueOf(n);
             Check.same("P7 glue behind " + n, Check.outcome(() -> x.glue(0, 0, 0, 0)), due);
         }
+    }
+
+    /** Promise 7: what is not kept is gone: an item in its place, and n there, have nothing of it. */
+    private static void p7NothingOfTheOthers() {
+        String kinds = "bgkexH";
+        for (char former : kinds.toCharArray()) {
+            LineBreaker none = ofKind(new LineBreaker(), former);
+            none.breakUp();
+            none.keep(0);
+            none.breakUp();
+            Lines.same("P7 " + former + ", then nothing", none, 0, 2, 0, 100, 0, 2, 100);
+            for (char latter : kinds.toCharArray()) {
+                for (int width : new int[] {100, 40}) {
+                    LineBreaker x = ofKind(new LineBreaker(), former);
+                    x.breakUp();
+                    x.keep(0);
+                    LineBreaker due = new LineBreaker();
+                    ofKind(x, latter).wide(0, width);
+                    ofKind(due, latter).wide(0, width);
+                    Check.same("P7 " + former + ", then " + latter, Trace.ofItems(x), Trace.ofItems(due));
+                }
+            }
+        }
+    }
+
+    /** Items of a kind with all its parts, a box behind each, and a second line behind a forced place. */
+    private static LineBreaker ofKind(LineBreaker x, char kind) {
+        x.wide(0, 100);
+        x.set(0, -1);
+        x.set(9, 1);
+        for (int i = 0; i < 4; i++) {
+            switch (kind) {
+                case 'b' -> x.box(10);
+                case 'g' -> x.glue(11, 12, i / 3, 13);
+                case 'k' -> x.kern(14, false);
+                case 'e' -> x.kern(15, true);
+                case 'x' -> x.penalty(i == 2 ? 10000 : 16);
+                default -> x.hyphen(17, 18, 0);
+            }
+            x.box(3);
+        }
+        x.penalty(-10000);
+        x.box(24);
+        return x;
     }
 
     /** Promise 8: "How many items the paragraph has. (Those that breakUp() sets behind them are never counted.)" */

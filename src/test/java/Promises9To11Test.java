@@ -326,6 +326,10 @@ public final class Promises9To11Test {
             x.wide(0, 1000);
             x.breakUp();
             Check.same("P11 order " + order, x.line(0, 3), order == 0 ? 10000 : 0);
+            x.wide(0, 1);
+            x.around(which, 0, 0, order, 0);
+            x.breakUp();
+            Check.same("P11 order " + order + " without stretch", x.line(0, 3), 10000);
         }
     }
 

@@ -15,6 +15,7 @@ public final class TermsLinesTest {
         noOtherItemIsLeft();
         leftAndRight();
         sums();
+        sumsOfEachLine();
         shortfall();
         fitOfStretch();
         endlessStretch();
@@ -84,6 +85,8 @@ public final class TermsLinesTest {
 
     /** Terms, LINE: "behind a hyphen that of the items behind the replaced ones", be it what it may. */
     private static void fromAHyphen() {
+        sameLine("Hb", 0, 0, 0, "0");
+        sameLine("Hb", 1, 4, 1, "1 0>");
         sameLine("bHb", 0, 1, 0, "0 1");
         sameLine("bHb", 1, 5, 2, "2 1>");
         sameLine("bHxgb", 1, 7, 2, "3 4 1>");
@@ -126,6 +129,9 @@ public final class TermsLinesTest {
         sameLine("begb", 1, 6, 3, "3");
         sameLine("begxeb", 1, 8, 5, "5");
         sameLine("bgkgb", 1, 3, 2, "2");
+        sameLine("fb", 1, 4, 1, "1");
+        sameLine("egb", 1, 5, 2, "2");
+        sameLine("fxgb", 1, 6, 3, "3");
     }
 
     /** Terms, LINE: "(If E comes before the first one, there are no items.)": before it, at it, behind it. */
@@ -217,6 +223,28 @@ public final class TermsLinesTest {
         y.around(1, 0, 0, 0, 21);
         y.breakUp();
         Check.same("SHRINK, it is there", y.line(0, 3), 100);
+    }
+
+    /** Terms: the sums are each line's own, of endless stretch too. */
+    private static void sumsOfEachLine() {
+        for (int mask = 0; mask < 32; mask++) {
+            LineBreaker x = new LineBreaker();
+            x.set(0, -1);
+            x.wide(0, 10);
+            x.around(2, 0, mask >> 4, 2, 0);
+            for (int i = 0; i < 4; i++) {
+                Build.append(x, "bx");
+                x.glue(1, 0, 0, 0);
+                x.glue(1, mask >> i & 1, 1 + i % 3, 0);
+                Build.append(x, "bf");
+            }
+            x.box(0);
+            x.breakUp();
+            for (int i = 0; i < 5; i++) {
+                Check.same("STRETCH of line " + i + " of " + mask, x.line(i, 3), (mask >> i & 1) == 1 ? 0 : 10000);
+                Check.same("WIDTH of line " + i + " of " + mask, x.line(i, 2), i < 4 ? 8 : 10);
+            }
+        }
     }
 
     /** Terms, SHORTFALL: "the width that lines of its number should have, less its width": as far as it can be. */
@@ -353,6 +381,8 @@ public final class TermsLinesTest {
 
     /** Terms, BAD: "10000 if r is above 1290, else (r * r * r + 131072) / 262144, rounded down". */
     private static void badIsAtMost10000() {
+        sameBadness("BAD, 799.99 and rounded", 594, 297, 800, 0);
+        sameBadness("BAD", 359, 297, 176, 0);
         sameBadness("BAD", 1289, 297, 8170, 0);
         sameBadness("BAD", 1290, 297, 8189, 0);
         sameBadness("BAD", 1291, 297, 10000, 0);

@@ -8,6 +8,7 @@ public final class TermsNodesTest {
         overfullBetween();
         overfullAtE();
         numberOneMore();
+        numberOfEachNode();
         feasible();
         lineAndBadness();
         penaltySquared();
@@ -23,6 +24,7 @@ public final class TermsNodesTest {
         lastPassMostLines();
         lastPassLeastPlace();
         lastPassGreatestFit();
+        lastPassFit();
         Check.done();
     }
 
@@ -141,6 +143,36 @@ public final class TermsNodesTest {
         Check.same("ALIVE, line 0", x.line(0, 2), 0);
         Check.same("ALIVE, line 1", x.line(1, 2), 0);
         Check.same("ALIVE, line 2 would be too narrow", x.nodes(), 1 + 1 + 1 + 2);
+    }
+
+    /**
+     * Terms, ALIVE: nodes at one place with other numbers of lines: lines 1 and 2 have no items'
+     * width, and are feasible only if they should have none.
+     */
+    private static void numberOfEachNode() {
+        for (int second : new int[] {-1, 0, 1}) {
+            for (int third : new int[] {-1, 0, 1}) {
+                LineBreaker x = Build.made("bpbpbfb");
+                x.wide(1, second);
+                x.wide(2, third);
+                x.around(2, 0, 0, 0, 0);
+                x.breakUp();
+                String what = "ALIVE, widths 0, " + second + ", " + third;
+                Check.same(what, x.pass(), second == 0 ? 1 : 2);
+                if (second == 0) {
+                    int due = third == 0 ? 1 + 2 + 3 + 3 : 1 + 2 + 2 + 1;
+                    Check.same(what, x.nodes(), due);
+                }
+            }
+        }
+        LineBreaker x = Build.made("bpbp");
+        x.box(3);
+        Build.append(x, "fb");
+        x.around(0, 0, 1, 1, 0);
+        x.wide(1, 5);
+        x.wide(2, 0);
+        x.breakUp();
+        Check.same("ALIVE, from one place line 1 has room, but line 2 is overfull", x.nodes(), 1 + 2 + 1 + 1);
     }
 
     /** Terms, FEASIBLE: "if its badness is not above the pass's TOLERANCE": at it, below, above. */
@@ -461,5 +493,30 @@ public final class TermsNodesTest {
             Check.same("LAST PASS, no demerits", x.total(2), 5000);
             Check.same("LAST PASS, overfull", x.line(2, 2), -50);
         }
+    }
+
+    /**
+     * Terms, LAST PASS: the node's fit is that of its line, which is overfull here (3), not that of
+     * the other line to E, which is too short (0): so the next line, of fit 2, is not far from it.
+     */
+    private static void lastPassFit() {
+        LineBreaker x = new LineBreaker();
+        x.set(0, -1);
+        x.wide(0, 10);
+        x.wide(1, 8);
+        x.box(10);
+        x.penalty(10000);
+        x.glue(0, 0, 0, 4);
+        x.box(0);
+        x.penalty(0);
+        x.box(4);
+        x.penalty(0);
+        x.box(5);
+        x.penalty(-10000);
+        x.box(8);
+        Check.same("LAST PASS, its fit", x.breakUp(), 3);
+        Lines.same("LAST PASS, its fit", x, 0, 4, 0, 0, 0, 2, 100);
+        Lines.same("LAST PASS, its fit", x, 1, 8, 5, -1, 10001, 3, 100);
+        Lines.same("LAST PASS, its fit", x, 2, 12, 9, 0, 0, 2, 200);
     }
 }

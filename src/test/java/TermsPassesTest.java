@@ -285,13 +285,15 @@ public final class TermsPassesTest {
     /** Terms, CHOSEN: "of the nodes with that number the one with the least total": one less, the same, one more. */
     private static void leastTotalOfThatNumber() {
         for (int adjacent = -1; adjacent < 2; adjacent++) {
-            LineBreaker x = threeOrFour(-10);
-            x.set(7, adjacent);
-            x.set(9, 1);
-            Check.same("LEAST TOTAL, four lines", x.breakUp(), 4);
-            Check.same("LEAST TOTAL, in the first pass", x.pass(), 1);
-            Check.same("LEAST TOTAL", x.total(3), 10000 + adjacent + Math.min(2 * adjacent, adjacent));
-            Check.same("LEAST TOTAL, by way of", x.line(2, 0), adjacent > 0 ? 15 : 11);
+            for (int looseness : new int[] {1, 2, 100}) {
+                LineBreaker x = threeOrFour(-10);
+                x.set(7, adjacent);
+                x.set(9, looseness);
+                Check.same("LEAST TOTAL, four lines", x.breakUp(), 4);
+                Check.same("LEAST TOTAL, looseness " + looseness, x.pass(), looseness == 1 ? 1 : 2);
+                Check.same("LEAST TOTAL", x.total(3), 10000 + adjacent + Math.min(2 * adjacent, adjacent));
+                Check.same("LEAST TOTAL, by way of", x.line(2, 0), adjacent > 0 ? 15 : 11);
+            }
         }
         for (int p : new int[] {19, 20, 21}) {
             LineBreaker x = new LineBreaker();
