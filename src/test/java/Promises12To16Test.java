@@ -7,6 +7,7 @@ public final class Promises12To16Test {
         p12HowManyLines();
         p12NeverNone();
         p12Full();
+        p12FullOfNodesThatAreAlive();
         p12FullInALaterPass();
         p12FullIsNotBroken();
         p12ReplacedItems();
@@ -102,6 +103,34 @@ public final class Promises12To16Test {
         z.keep(249);
         Check.same("P12 again 126 and 7750 nodes", z.breakUp(), 127);
         Check.same("P12 again 126 and 7750 nodes", z.nodes(), 7876);
+    }
+
+    /**
+     * 126 places, none of which ends a node, with 1 node, 2, 3 and so on. The kern is only there in
+     * lines from the beginning, so that places behind it have no node with one line; then comes
+     * what leaves no line from a place feasible, but that from the beginning is, at n.
+     */
+    private static LineBreaker allAlive(int placesBehindKern) {
+        LineBreaker x = new LineBreaker();
+        for (int i = 0; i < 126 - placesBehindKern; i++) {
+            x.penalty(0);
+        }
+        x.kern(-5, true);
+        for (int i = 0; i < placesBehindKern; i++) {
+            x.penalty(0);
+        }
+        x.box(1);
+        return x;
+    }
+
+    /** Promise 12: "FULL when a pass would make more than 8000 nodes", all of which are alive up to n. */
+    private static void p12FullOfNodesThatAreAlive() {
+        for (int places = 1; places < 4; places++) {
+            LineBreaker x = allAlive(places);
+            int due = 126 * 127 / 2 - places + 1;
+            Check.same("P12 alive, " + due, x.breakUp(), due > 8000 ? LineBreaker.FULL : 1);
+            Check.same("P12 alive, " + due, x.nodes(), due > 8000 ? 0 : due);
+        }
     }
 
     /** Promise 12: "a pass": also the second, after the first that had few nodes, and the third. */

@@ -159,7 +159,8 @@ public final class TermsLinesTest {
 
     /**
      * Terms, LINE: "left out up to the first other item": there is none before the end, so that the
-     * closing ones are left out too, and the fill with them.
+     * closing ones ("These are items too, then; n is the last one's place") are left out too, and
+     * the fill with them, whether the line goes to n or ends before.
      */
     private static void noOtherItemIsLeft() {
         for (String parts : new String[] {"bf", "bfe", "bfgg", "bfxe", "bI", "bIxe"}) {
@@ -172,6 +173,9 @@ public final class TermsLinesTest {
             Check.same("LINE, not even the fill of " + parts, x.line(1, 3), 10000);
             Check.same("LINE, the first one is behind n, " + parts, x.line(1, 1), n + 1);
         }
+        sameLine("bff", 1, 2, 6, "");
+        sameLine("bff", 2, 5, 6, "");
+        sameLine("bgg", 1, 4, 5, "");
         LineBreaker x = weighed("bH");
         x.wide(0, 40000);
         x.around(2, 4, 1, 1, 0);
